@@ -500,10 +500,7 @@ final class Model {
             }
         }
         int most = Arrays.stream(often).max().getAsInt();
-        for (int cell = 24; cell >= 0 && what == 0; cell--) {
-            most = often[cell] == Arrays.stream(often).max().getAsInt() ? cell : most;
-        }
-        return what == 1 ? most : firstWith(often, Arrays.stream(often).max().getAsInt());
+        return what == 1 ? most : firstWith(often, most);
     }
 
     private static int firstWith(int[] numbers, int number) {
