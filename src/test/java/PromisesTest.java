@@ -8,6 +8,8 @@ public final class PromisesTest {
     private static final String CORNER = "w3900;w3901;w3905;";
     /** Holds 2 in the topmost row: worn behind 5, 6 and 7 hours, and then gone. */
     private static final String MINT = "w4000;";
+    /** In 60 hours in cell 2 over a castle that falls behind 28: worn behind 6, 18 and 29, and gone with that. */
+    private static final int MINT_BEHIND_A_CASTLE = 29 * 7;
 
     public static void main(String[] args) {
         aNewObject();
@@ -56,6 +58,7 @@ public final class PromisesTest {
         lots();
         imageAndRestore();
         count();
+        refusalsAreCounted();
         refusalsChangeNothing();
         Check.ends();
     }
@@ -476,6 +479,8 @@ public final class PromisesTest {
         due("now", x.floods(0), 0);
         due("a wall still", x.floods(12), 1);
         due("never in 60", told(CORNER).floods(0), -9);
+        due("behind 60, as a castle falls", told("h06;" + CORNER + "x03;").floods(0), 60);
+        due("not behind 60", told("h06;" + CORNER + "x02;").floods(0), -9);
         due("no such", x.floods(25), -1);
         due("no such", x.floods(-1), -1);
     }
@@ -489,6 +494,7 @@ public final class PromisesTest {
         x.work(0, 9, 12);
         due("row 2 is wet 5 of 12, but for 3 of the wall's", x.dry(12), 60 - 25 + 3);
         due("always", told(CORNER).dry(0), 60);
+        due("but behind 60", told("h06;" + CORNER + "x03;").dry(0), 59);
         x.hours(6);
         due("behind 1 of 60, not now", x.dry(0), 55);
         due("no such", x.dry(25), -1);
@@ -521,7 +527,13 @@ public final class PromisesTest {
         due("none", new CastlesAreAssessed().falls(-1), -9);
         due("no such", x.falls(3), -1);
         due("no such", x.falls(-2), -1);
-        due("none in 60", told("w3900;w3901;w3905;r1;r2;w3901;w3905;").falls(1), 0);
+        CastlesAreAssessed y = told("h05;" + CORNER + "x03;");
+        due("behind 60", y.falls(0), 60);
+        y.razes(1);
+        y.razes(2);
+        due("sooner with the sea beside it", y.falls(0) < 60 ? 1 : 0, 1);
+        CastlesAreAssessed z = told("h05;" + CORNER + "x02;");
+        due("not behind 60", z.falls(0), -9);
     }
 
     /** 19 */
@@ -534,6 +546,7 @@ public final class PromisesTest {
         due("one, the cell itself", x.keep(3, 17, 1), 3);
         due("two: it and the one below", x.keep(4, 24, 0), 2);
         due("first of two", x.keep(4, 24, 1), 4);
+        due("first of two", x.keep(0, 24, 1), 0);
         due("not by two", x.keep(24, 9, 0), -9);
         due("not by two", x.keep(24, 9, 1), -9);
         x.hours(6);
@@ -556,6 +569,10 @@ public final class PromisesTest {
         CastlesAreAssessed y = told("w3910;w2015;");
         due("both sides of a moat", y.keep(15, 5, 0), 2);
         due("the first", y.keep(15, 5, 1), 16);
+        CastlesAreAssessed z = told("w2006;w2007;w3901;w3902;w3905;w3908;");
+        due("two cells side by side", z.keep(6, 6, 0), 2);
+        due("the first", z.keep(6, 6, 1), 11);
+        due("walls there are worn too: 5 by 7, but dry is row 1 from 8", z.keep(6, 7, 0), -9);
     }
 
     /** 20 */
@@ -565,6 +582,8 @@ public final class PromisesTest {
         due("84 and 12 times 14", x.best(4, 0, 12, 1), 84 + 168);
         due("all the same", x.best(4, 0, 0, 0), 0);
         due("the purse as it is", x.best(4, 0, 0, 1), 0);
+        due("29 times 7 more", x.best(4, 0, 60, 1), x.then(60, 1) + MINT_BEHIND_A_CASTLE);
+        due("not where the first one stands", told("w0000;").best(4, 0, 0, 0), 1);
         x.work(0, 0, 0);
         due("not where one stands", x.best(4, 0, 0, 0), 1);
         due("in mind", x.count(0), 2);
@@ -591,6 +610,7 @@ public final class PromisesTest {
         x.razes(2);
         due("the least of several", x.dredge(1), 1);
         due("in mind", x.count(4), 11);
+        due("the first one", told("w0900;").dredge(1), 0);
         due("nothing lets be more", told("w0000;").dredge(60), -9);
         due("none", new CastlesAreAssessed().dredge(60), -9);
         due("below", x.dredge(-1), -4);
@@ -614,6 +634,7 @@ public final class PromisesTest {
         CastlesAreAssessed y = told("w0024;w0000;w0012;w0020;w0004;w0001;w0003;w0021;");
         due("eight: 0 1 3 4, 12, then 21 20 24 is 4 and 4 and 3 and 1 and 4", y.round(-1), 16);
         due("begins where it stands", y.round(0), 0);
+        due("from cell 0", told("w0020;w0004;").round(0), 20);
         due("none", new CastlesAreAssessed().round(-1), 0);
         due("none", new CastlesAreAssessed().round(0), -9);
         due("below", x.round(-2), -4);
@@ -632,6 +653,7 @@ public final class PromisesTest {
         due("arrears", x.assessed(2), 40);
         CastlesAreAssessed y = told("w4000;h01;p;r0;h01;");
         due("no arrears", y.assessed(2), 0);
+        due("the first one is dearest", told("w5900;w0001;w0902;").assessed(1), 0);
         due("none", y.assessed(0), 0);
         due("none", y.assessed(1), -9);
         CastlesAreAssessed z = told("w2000;w2004;w0001;w0005;w5022;");
@@ -716,15 +738,11 @@ public final class PromisesTest {
         due("no such before gone", x.two(2, 4), -1);
         due("gone", x.two(0, 2), -3);
         due("gone", x.two(2, 0), -3);
-        due("a moat that is wet for all the hours", wetMoat().two(0, 1), 0);
+        due("a moat that is wet for six hours", told("h04;w1900;w2920;").two(0, 1), 0);
+        due("a moat that is wet for five of them", told("h05;w1900;w2920;").two(0, 1), 1);
         CastlesAreAssessed y = told("w5900;w5901;w5902;w5903;w5904;w5905;w5906;w5907;h13;");
         y.hours(3);
         due("owed is full", y.two(0, 1), 0);
-    }
-
-    /** Levels of the six hours are 2 to 5 to 3: row 4 is wet in all of them. */
-    private static CastlesAreAssessed wetMoat() {
-        return told("h02;w1900;w2920;");
     }
 
     /** 27 */
@@ -789,6 +807,7 @@ public final class PromisesTest {
         due("alone, as what stood beside is gone", x.weakest(1), 16 + 8);
         due("highest", x.weakest(2), 3);
         due("ruins", x.weakest(3), 1);
+        due("the first one is highest", told("w0000;w0022;w0001;").weakest(2), 0);
         CastlesAreAssessed y = told("w0004;w0005;");
         due("not beside over the edge of a row", y.weakest(1), 3);
         due("what", x.weakest(4), -2);
@@ -837,6 +856,8 @@ public final class PromisesTest {
         x.razes(1);
         due("nothing stands", x.sand(), 0);
         due("never in 60", told(CORNER).sand(), -9);
+        due("behind 60", told("h05;" + CORNER + "x03;").sand(), 60);
+        due("not behind 60", told("h05;" + CORNER + "x02;").sand(), -9);
         due("new", new CastlesAreAssessed().sand(), 0);
     }
 
@@ -1015,6 +1036,40 @@ public final class PromisesTest {
         for (int i = 0; i < 6; i++) {
             due("refusals " + (i + 1), x.count(11 + i), refusals[i]);
         }
+    }
+
+    /** Each refusal of the document: the one that is due is one more, the others stay. */
+    private static void refusalsAreCounted() {
+        CastlesAreAssessed x = told("w4000;w0022;r1;");
+        String[] calls = {"feed -1 4", "feed 256 6", "workOf 2 0 1", "workOf 0 9 2", "at 25 1", "work 6 0 0 2",
+            "work 0 -1 0 4", "work 0 10 0 6", "work 0 0 25 1", "work 0 0 0 3", "razes 2 1", "razes 1 3", "fixes 2 1",
+            "fixes 1 3", "hours 0 4", "hours 61 6", "level -1 4", "level 61 6", "wet -1 4", "wet 61 6", "then -1 0 4",
+            "then 61 0 6", "then 0 3 2", "floods 25 1", "dry 25 1", "driest 2 2", "falls 2 1", "keep 25 1 0 1",
+            "keep 0 0 0 4", "keep 0 25 0 6", "keep 0 1 2 2", "best 6 0 0 0 2", "best 0 0 0 2 2", "best 0 -1 0 0 4",
+            "best 0 0 -1 0 4", "best 0 10 0 0 6", "best 0 0 61 0 6", "dredge -1 4", "dredge 61 6", "round -2 4",
+            "assessed 4 2", "whatWas 2 0 1", "whatWas 0 2 2", "two 0 2 1", "two 0 0 1", "two 0 1 3", "shares 0 0 4",
+            "shares 10 0 6", "shares 1 2 2", "weakest 4 2", "pairs 3 2", "turrets 6 2", "row -1 4", "row 100 6",
+            "lots 0 0 0 4", "lots 21 0 0 6", "lots 1 0 2 2", "back 3", "restore 3"};
+        for (String call : calls) {
+            String[] words = call.split(" ");
+            int[] a = new int[words.length - 2];
+            for (int i = 0; i < a.length; i++) {
+                a[i] = Integer.parseInt(words[i + 1]);
+            }
+            int which = Integer.parseInt(words[words.length - 1]);
+            int[] before = refusals(x);
+            due(call, Calls.of(x, words[0], a), -which);
+            before[which - 1]++;
+            Check.holds(call + " is counted", java.util.Arrays.equals(before, refusals(x)));
+        }
+    }
+
+    private static int[] refusals(CastlesAreAssessed x) {
+        int[] numbers = new int[6];
+        for (int i = 0; i < 6; i++) {
+            numbers[i] = x.count(11 + i);
+        }
+        return numbers;
     }
 
     /** The refusals: nothing changes but how many there were. */
