@@ -22,6 +22,7 @@ public final class CastlesAreAssessed {
     private static final int MOST_SWELLS = 7;
     private static final int TIDE = 12;
     private static final int TAKES = 8;
+    private static final int LETTERS = 96;
     private static final int ROW_ROOM = 12;
     private static final int ROUTES = 2048;
     private static final int NO_SIGN = 2147483647;
@@ -65,13 +66,14 @@ public final class CastlesAreAssessed {
             return LACKS - lack;
         }
         mind.becomes(now);
+        int place = 0;
         int statements = 0;
-        for (int place = 0; place < letters.size(); place += letters.lengthAt(place)) {
+        for (; statements < LETTERS && place < letters.size(); statements++) {
             if (!letters.comes(place, mind)) {
                 letters.forget();
                 return NOT_SO - place;
             }
-            statements++;
+            place += letters.lengthAt(place);
         }
         now.becomes(mind);
         takes = 0;
@@ -1193,16 +1195,14 @@ public final class CastlesAreAssessed {
 
     /** The letters in which a beach is told. */
     private static final class Letters {
-        private static final int MOST = 96;
-
-        private final int[] signs = new int[MOST];
+        private final int[] signs = new int[LETTERS];
         private int size;
 
         private Letters() {
         }
 
         boolean isFull() {
-            return size >= MOST;
+            return size >= LETTERS;
         }
 
         int size() {
@@ -1210,7 +1210,7 @@ public final class CastlesAreAssessed {
         }
 
         void add(int sign) {
-            if (size >= 0 && size < MOST) {
+            if (size >= 0 && size < LETTERS) {
                 signs[size] = sign;
                 size++;
             }
@@ -1221,7 +1221,7 @@ public final class CastlesAreAssessed {
         }
 
         private int signAt(int place) {
-            return place >= 0 && place < size && place < MOST ? signs[place] : NONE;
+            return place >= 0 && place < size && place < LETTERS ? signs[place] : NONE;
         }
 
         private boolean isDigit(int place) {
@@ -1258,7 +1258,8 @@ public final class CastlesAreAssessed {
             if (size == 0) {
                 return 0;
             }
-            for (int place = 0; place < size; place += lengthAt(place)) {
+            int place = 0;
+            for (int statements = 0; statements < LETTERS && place < size; statements++) {
                 int digits = digitsBehind(signAt(place));
                 if (digits < 0) {
                     return place;
@@ -1272,6 +1273,7 @@ public final class CastlesAreAssessed {
                 if (signAt(place + digits + 1) != ';') {
                     return place + digits + 1;
                 }
+                place += lengthAt(place);
             }
             return NONE;
         }

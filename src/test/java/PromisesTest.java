@@ -172,6 +172,8 @@ public final class PromisesTest {
         due("purse: 2 times 5 and 3, less 2 times 40 and 13", x.count(2), 0);
         due("a cell whose work is gone", tells(x, "w4922;"), 1);
         due("the new one", x.at(22), 3);
+        due("letters of a text before are no more", tells(x, "w1"), -1002);
+        due("letters of a text before are no more", tells(x, "p"), -1001);
         CastlesAreAssessed y = told("w4000;w0010;h02;p;");
         due("purse less owed", y.count(2), 0);
         due("hours of a text", tells(y, "h01;"), 1);
