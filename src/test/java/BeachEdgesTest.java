@@ -133,6 +133,7 @@ public final class BeachEdgesTest {
         fault("h99;", -2000);
         is("beach: worn 0", "tell w0000;x05;x00; = 3, workOf 0 3 = 0");
         is("beach: worn 9", "tell w0000;x09; = 2, workOf 0 3 = 9, workOf 0 4 = 1");
+        is("beach: worn 0 by f", "tell w0000;x09;f0; = 3, workOf 0 3 = 0");
         is("beach: the first fault of two", "tell p;h00;h61; = -2002");
         is("beach: the last statement of a full text", "tell " + "p;".repeat(46) + "h61; = -2092");
         is("beach: kind 1 ahead of kind 2", "tell r0;h00;p = -1008");

@@ -48,6 +48,8 @@ public final class RestEdgesTest {
         is("weakest: the only one", "work 5 9 0, weakest 0 = 0");
         is("weakest: of several, the least", "tell w3000;w0001;w0202;, weakest 0 = 1");
         is("weakest: one gone is not it", "tell w0000;r0;w3001;, weakest 0 = 1");
+        is("weakest: the first of two alike", "tell w0000;w0001;, weakest 0 = 0");
+        is("weakest: the first, where others hold more", "tell w0000;w3001;w0302;, weakest 0 = 0");
         is("weakest: worn more than it holds", "tell w0000;x02;w0001;x13;w0002;x22;, weakest 0 = 1");
         is("weakest: worn as much as it holds", "tell w0000;w0901;x14;, weakest 0 = 1");
         is("weakest: the last of eight", "tell " + Script.EIGHT + "x71;, weakest 0 = 7");

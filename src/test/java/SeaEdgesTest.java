@@ -316,6 +316,8 @@ public final class SeaEdgesTest {
         is("dredge: behind 60", "work 0 9 0, dredge 60 = 0");
         is("dredge: one that gives as much as it takes", "work 0 0 0, dredge 60 = -9");
         is("dredge: several, the least", "tell w0900;w0901;, dredge 1 = 0");
+        is("dredge: the middle one of three", "tell w0100;w0901;w0202;, dredge 1 = 1");
+        is("dredge: the last of three, each better", "tell w0100;w0201;w0902;, dredge 1 = 2");
         is("dredge: the last of eight", "tell w0000;w0001;w0002;w0003;w0004;w0005;w0006;w0907;, dredge 1 = 7");
         is("dredge: all gone", "tell w0900;r0;, dredge 60 = -9");
         is("dredge: one gone is not it", "tell w0900;r0;w0101;, dredge 1 = 1");
@@ -433,6 +435,8 @@ public final class SeaEdgesTest {
         is("howHigh: asked, the hour stays", "hours 3, rows 0 0, howHigh, count 1 = 3");
         is("howHigh: by works that fall", "tell w0020;w0021;w0022;w0023;, rows 1 6 15, howHigh = 4");
         is("howHigh: by a bar", BAR + "rows 0 0 0, howHigh = 4095");
+        is("howHigh: for each hour works as they are now", "tell w0020;x01;w0021;x11;w0022;x21;w0023;x31;, rows 1, "
+            + "howHigh = 1028");
     }
 
     /** 26: refused */
